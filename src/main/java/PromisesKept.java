@@ -456,12 +456,12 @@ public final class PromisesKept {
     private int cheapestToForgive(int heldBits, int k, int most) {
         int mayStay = country.slots - k;
         int cheapest = NONE;
-        int least = 0;
+        int least = Integer.MAX_VALUE;
         for (int set = 0; set <= heldBits; set++) {
             boolean isHeld = (set & ~heldBits) == 0;
-            if (isHeld && Integer.bitCount(heldBits & ~set) <= mayStay && wants.nobodyLosesOver(set, most)) {
+            if (isHeld && Integer.bitCount(heldBits & ~set) <= mayStay) {
                 int worth = wants.worthOf(set);
-                if (cheapest == NONE || worth < least) {
+                if (worth < least && wants.nobodyLosesOver(set, most)) {
                     cheapest = set;
                     least = worth;
                 }
@@ -769,7 +769,11 @@ public final class PromisesKept {
                 if (last == 0) {
                     return many;
                 }
-                last = stepFrom(last, among);
+                int next = stepFrom(last, among);
+                if (next == last) {
+                    return NONE;
+                }
+                last = next;
             }
             return NONE;
         }
@@ -778,13 +782,15 @@ public final class PromisesKept {
             return isNumber(want) ? longestRowFrom(1 << want, among) : NONE;
         }
 
-        /** A want that is on no ring is never among the fewest: only those on rings are tried. */
+        /**
+         * A want that is on no ring is never among the fewest: only those on rings are tried,
+         * by rising bits, so that the first of like ones has the least.
+         */
         int fewestThatFree(int among) {
             int onRings = ringsAmong(among);
             int fewest = onRings;
             for (int set = 0; set <= onRings; set++) {
-                boolean fewer = Integer.bitCount(set) < Integer.bitCount(fewest)
-                        || Integer.bitCount(set) == Integer.bitCount(fewest) && set < fewest;
+                boolean fewer = Integer.bitCount(set) < Integer.bitCount(fewest);
                 if ((set & ~onRings) == 0 && fewer && longestRowFrom(among, among & ~set) != NONE) {
                     fewest = set;
                 }

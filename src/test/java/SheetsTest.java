@@ -216,6 +216,9 @@ public final class SheetsTest {
         Due.is("digest() but for count(8)", x.digest(), first);
         x.type(';');
         Due.is("digest() with a fault", x.digest(), byCalls(x));
+        PromisesKept one = Due.with("0100319;1201419;2302503;3401604");
+        one.set(0, 0, 1);
+        Due.is("digest() of one slot", one.digest(), byCalls(one));
     }
 
     /** Every answer of a new object, in the document's order. */

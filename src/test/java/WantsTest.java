@@ -57,7 +57,10 @@ public final class WantsTest {
         x.after(0, 1, 1);
         x.forgive(1, 0);
         x.seen(1, 0, 1);
+        Due.is("held ahead of it", x.held(0), 1);
         Due.is("wipe()", x.wipe(), 7);
+        Due.is("none is held behind it", x.held(0), 0);
+        Due.is("fault() of an empty text", x.fault(), -1);
         Due.is("wipe() again", x.wipe(), 0);
         Due.is("wants", x.count(0), 0);
         Due.is("bytes", x.count(1), 0);
