@@ -24,6 +24,10 @@ public final class PromisesKept {
 
     /** Where any number may be an answer, refusals lie below all of them. */
     private static final int BAD_AMONG_NUMBERS = -10000 + BAD;
+    private static final int LEAST_INT = 1 << 31;
+
+    /** More than ten wants of worth 9 come to. */
+    private static final int OVER_ALL_WORTH = 100;
 
     private final Wants wants = new Wants();
     private final Country country = new Country();
@@ -335,12 +339,12 @@ public final class PromisesKept {
     public int get(int s, int form, int i) {
         Sheet sheet = sheetAt(s);
         if (sheet == null || !isForm(form)) {
-            return Integer.MIN_VALUE;
+            return LEAST_INT;
         }
         int wrong = sheet.findingAt(form, i);
         if (wrong != 0) {
             finding = wrong;
-            return Integer.MIN_VALUE;
+            return LEAST_INT;
         }
         return sheet.item(i);
     }
@@ -456,7 +460,7 @@ public final class PromisesKept {
     private int cheapestToForgive(int heldBits, int k, int most) {
         int mayStay = country.slots - k;
         int cheapest = NONE;
-        int least = Integer.MAX_VALUE;
+        int least = OVER_ALL_WORTH;
         for (int set = 0; set <= heldBits; set++) {
             boolean isHeld = (set & ~heldBits) == 0;
             if (isHeld && Integer.bitCount(heldBits & ~set) <= mayStay) {
