@@ -132,6 +132,7 @@ public final class EdgesOfDaysTest {
     }
 
     private static void readIs(PromisesKept x, int many, int... means) {
+        Due.is("means(0, 0) ahead of read", x.means(0, 0), 9);
         Due.is("read(2)", x.read(2), many);
         for (int person = 0; person < 6; person++) {
             Due.is("means(" + person + ", 0) read", x.means(person, 0), means[person]);
@@ -234,6 +235,11 @@ public final class EdgesOfDaysTest {
         Due.fate(x, 2, 0, 6, 1);
         x.after(2, 2, 1);
         Due.fate(x, 2, 0, 6, 2);
+        PromisesKept first = Due.with("0100051;1200062");
+        first.set(2, 0, 0);
+        first.after(1, 0, 1);
+        Due.fate(first, 0, 0, 5, 2);
+        Due.fate(first, 1, 0, 6, 2);
         PromisesKept later = Due.with("0100051;1200062");
         later.after(0, 1, 1);
         Due.fate(later, 0, 0, 5, 2);

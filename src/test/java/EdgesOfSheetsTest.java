@@ -28,6 +28,7 @@ public final class EdgesOfSheetsTest {
         writeOnTheFirstAndTheLastDay();
         countOfNoneAndAll();
         digestAsLongsThatWrap();
+        digestOnTheDaysTold();
         digestDoesNotTellCount8();
         Due.end();
     }
@@ -451,6 +452,21 @@ public final class EdgesOfSheetsTest {
                 Due.is("digest() of " + text + " with " + slots, x.digest(), digestOf(x));
             }
         }
+    }
+
+    /** "of DAYS 0, 10, 30 ..; trust(it, 40), means(it, 40), owed(it, 0, 20)": on each something ends, and a day later. */
+    private static void digestOnTheDaysTold() {
+        String text = "3100101;3200112;1000203;2000214;4300305;5300316;3400407;4500418;0110999;5130391";
+        for (int slots = 1; slots <= 9; slots += 2) {
+            PromisesKept x = Due.with(text);
+            Calls.all(x, "set 0 0 " + slots, "after 3 3 1", "after 4 5 1", "after 5 4 1", "after 9 8 1", "seen 11 8 1");
+            Due.is("digest() of days with " + slots, x.digest(), digestOf(x));
+        }
+        PromisesKept one = Due.with("0100101;1200309;2301205");
+        one.set(0, 0, 1);
+        Due.is("unlike(0, 1) is told", one.unlike(0, 1), 0);
+        Due.is("unlike(0, 2) is another", one.unlike(0, 2), 10);
+        Due.is("digest() of laws unlike", one.digest(), digestOf(one));
     }
 
     /** "count() 0 to 7": neither a FINDING nor a SHEET is in it. */

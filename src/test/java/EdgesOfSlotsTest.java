@@ -98,6 +98,14 @@ public final class EdgesOfSlotsTest {
         roomIs(other, 0, 2, 5, 8, 5);
         roomIs(other, 0, 2, 4, -1, -1);
         roomIs(other, 0, 3, 7, 12, 7);
+        for (int to = 0; to < 6; to++) {
+            PromisesKept one = Due.with("" + (to + 1) % 6 + to + "00094;" + (to + 2) % 6 + to + "00095");
+            one.set(0, 0, 2);
+            roomIs(one, 0, 2, 9, 9, 3);
+            roomIs(one, 0, 2, 8, -1, -1);
+            roomIs(one, 0, 1, 4, 4, 1);
+            roomIs(one, 0, 1, 3, -1, -1);
+        }
     }
 
     /** "the least WORTH together, of like ones the least bits". */
@@ -143,6 +151,13 @@ public final class EdgesOfSlotsTest {
         Due.is("price(-1)", x.price(-1), Due.BAD);
         Due.is("price(100)", x.price(100), Due.BAD);
         Due.is("price(0) of no wants", new PromisesKept().price(0), 0);
+        PromisesKept first = Due.with("0100501;1200502");
+        first.set(0, 0, 1);
+        first.set(1, 0, 1);
+        Due.is("price(0): want 0 waits", first.price(0), 1);
+        PromisesKept tenth = Due.with(TEN);
+        tenth.set(0, 0, 9);
+        Due.is("price(0): want 9 waits", tenth.price(0), 9);
     }
 
     /** "NONE: nothing was made." */

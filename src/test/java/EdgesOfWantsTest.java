@@ -245,13 +245,17 @@ public final class EdgesOfWantsTest {
         int[] lengths = {0, 1, 7, 8, 79, 80};
         for (int n : lengths) {
             PromisesKept x = Due.with((NINE + ";0100011;").substring(0, n));
+            int held = n % 8 == 7 ? 1 : 0;
+            Due.is("held(0) of " + n, x.held(0) & 1, held);
             Due.is("wipe of " + n, x.wipe(), n);
+            Due.is("held(0) behind wipe", x.held(0), 0);
             Due.is("wipe again", x.wipe(), 0);
             Due.is("fault behind wipe", x.fault(), -1);
             Due.is("wants behind wipe", x.count(0), 0);
             Due.type(x, "1000029");
             Due.is("typed anew, want(0, 4)", x.want(0, 4), 9);
             Due.is("typed anew, how many", x.count(0), 1);
+            Due.is("typed anew, held(1)", x.held(1), 1);
         }
     }
 
