@@ -230,8 +230,7 @@ final class Model {
         return hoarder;
     }
 
-    private boolean[][] reach(int gone) {
-        int n = words().size();
+    private boolean[][] reach(int gone, int n) {
         boolean[][] r = new boolean[n][n];
         for (int a = 0; a < n; a++) {
             for (int b = 0; b < n; b++) {
@@ -248,8 +247,12 @@ final class Model {
         return r;
     }
 
-    int rings(int gone) {
-        boolean[][] r = reach(gone);
+    int rings() {
+        return rings(0, words().size());
+    }
+
+    private int rings(int gone, int n) {
+        boolean[][] r = reach(gone, n);
         int bits = 0;
         for (int a = 0; a < r.length; a++) {
             bits |= r[a][a] ? 1 << a : 0;
@@ -261,7 +264,7 @@ final class Model {
         int n = words().size();
         int best = (1 << n) - 1;
         for (int set = best; set >= 0; set--) {
-            if (Integer.bitCount(set) <= Integer.bitCount(best) && rings(set) == 0) {
+            if (Integer.bitCount(set) <= Integer.bitCount(best) && rings(set, n) == 0) {
                 best = set;
             }
         }
@@ -269,7 +272,7 @@ final class Model {
     }
 
     int depth(int want) {
-        boolean[][] r = reach(0);
+        boolean[][] r = reach(0, words().size());
         for (int b = 0; b < r.length; b++) {
             if (r[b][b] && (b == want || r[want][b])) {
                 return -1;
@@ -308,7 +311,10 @@ final class Model {
     }
 
     int owed(int a, int b, int day) {
-        Chronicle c = now();
+        return owed(now(), a, b, day);
+    }
+
+    private static int owed(Chronicle c, int a, int b, int day) {
         int sum = 0;
         for (Word w : c.words) {
             if ((c.held[day] >> w.number & 1) == 1) {
@@ -319,12 +325,46 @@ final class Model {
     }
 
     int cleared(int day) {
+        Chronicle c = now();
         int sum = 0;
         for (int a = 0; a < 6; a++) {
             for (int b = 0; b < 6; b++) {
-                sum += a == b ? 0 : Math.max(0, owed(a, b, day));
+                sum += a == b ? 0 : Math.max(0, owed(c, a, b, day));
             }
         }
         return sum;
+    }
+
+    private int fitting(boolean laws) {
+        int bits = 0;
+        for (int n = 0; n < (laws ? 4 : 9); n++) {
+            bits |= fits(laws ? n : law, laws ? slots : n + 1) ? 1 << n : 0;
+        }
+        return bits;
+    }
+
+    /** The answers in the document's order, by this model alone. */
+    long digest() {
+        Chronicle c = now();
+        List<Integer> all = new ArrayList<>(List.of(c.words.size(), text.length(), c.words.size() - how(c, 4), how(c, 1),
+            how(c, 2), how(c, 4), forgivings.size(), seen.size(), fault()));
+        for (Word w : c.words) {
+            all.addAll(List.of(w.who, w.to, w.asked, w.due, w.worth, w.made, w.ended, w.how, depth(w.number)));
+        }
+        for (int day : new int[] {0, 10, 30}) {
+            int[] room = room(day, 1, 9);
+            all.addAll(List.of(c.held[day], c.waiting[day], price(day), cleared(day), room[0], room[1]));
+        }
+        for (int person = 0; person < 6; person++) {
+            all.addAll(List.of(c.trust[40][person], c.means[40][person], person == 0 ? -10002 : owed(c, person, 0, 20)));
+        }
+        int freed = freed();
+        all.addAll(List.of(gain(0), gain(1), gain(2), gain(3), best(), hoarder(), rings()));
+        all.addAll(List.of(Integer.bitCount(freed), freed, fitting(true), fitting(false), unlike(0, 1)));
+        long h = 17;
+        for (int one : all) {
+            h = 31 * h + one;
+        }
+        return h;
     }
 }

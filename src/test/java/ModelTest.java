@@ -1,6 +1,6 @@
 import java.util.Random;
 
-/** Promises 2 to 30 and 37 on wants drawn by lot, with a fixed seed, against the Model. */
+/** Promises 2 to 30, 37 and 38 on wants drawn by lot, with a fixed seed, against the Model. */
 public final class ModelTest {
     private static final Random LOT = new Random(20261118);
 
@@ -24,6 +24,7 @@ public final class ModelTest {
             days(at, x, m);
             slotsAndRings(at, x, m);
             seenAndOwed(at, x, m);
+            Due.is(at + "digest()", x.digest(), m.digest());
             changeOne(x, m);
         }
     }
@@ -148,7 +149,7 @@ public final class ModelTest {
             Due.is(at + "price(" + day + ")", x.price(day), m.price(day));
         }
         Due.is(at + "hoarder()", x.hoarder(), m.hoarder());
-        Due.is(at + "rings()", x.rings(), m.rings(0));
+        Due.is(at + "rings()", x.rings(), m.rings());
         int freed = m.freed();
         Due.is(at + "freed(0)", x.freed(0), Integer.bitCount(freed));
         Due.is(at + "freed(1)", x.freed(1), freed);
@@ -206,5 +207,8 @@ public final class ModelTest {
         type(x, m, text.toString());
         Due.is("fault() of " + text, x.fault(), m.fault());
         Due.is("count(0) of " + text, x.count(0), m.words().size());
+        if (x.count(0) == 0) {
+            Due.is("digest() of " + text, x.digest(), m.digest());
+        }
     }
 }
